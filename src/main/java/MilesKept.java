@@ -191,7 +191,7 @@ public final class MilesKept {
         if (!isDay(day) || !isWithin(what, 0, 1)) {
             return BAD;
         }
-        return what == 0 ? repairs.leastOn(day) : repairs.greatestOn(day);
+        return repairs.farOn(day, what == 1);
     }
 
     public int plate(int day) {
@@ -766,24 +766,18 @@ public final class MilesKept {
             return reasons[k];
         }
 
-        int leastOn(int day) {
+        /** ON a DAY: the greatest FAR, or the least. */
+        int farOn(int day, boolean greatest) {
             int ahead = lastUntil(day);
             int behind = firstAfter(day);
             if (ahead == NO_STAND || behind == NO_STAND) {
                 return NONE;
             }
-            return Math.max(stands.fars[ahead],
-                stands.fars[behind] - stands.mostGone(day, stands.days[behind]));
-        }
-
-        int greatestOn(int day) {
-            int ahead = lastUntil(day);
-            int behind = firstAfter(day);
-            if (ahead == NO_STAND || behind == NO_STAND) {
-                return NONE;
-            }
-            return Math.min(stands.fars[behind],
-                stands.fars[ahead] + stands.mostGone(stands.days[ahead], day));
+            int gone = stands.mostGone(stands.days[ahead], day);
+            int toCome = stands.mostGone(day, stands.days[behind]);
+            return greatest
+                ? Math.min(stands.fars[behind], stands.fars[ahead] + gone)
+                : Math.max(stands.fars[ahead], stands.fars[behind] - toCome);
         }
 
         private int lastUntil(int day) {

@@ -41,6 +41,7 @@ public final class PromisesTest {
         oddsFull();
         images();
         counting();
+        extremes();
         CHECK.end();
     }
 
@@ -136,8 +137,8 @@ public final class PromisesTest {
     // ---- promise 4
 
     private static void tellingWell() {
-        String[] texts = {"", "     ", "r0 0 1;", "r999 9999 9;", " r 5  6 7 ; ", "f1;", "f99;", "w0;", "w100;", "w9999;",
-            "oa;", "oh;", "o h;", "p0ab;", "p999ha;", "p 9 a b ;f20;w0;oa;r1 1 1;"};
+        String[] texts = {"", "     ", "r0 0 1;", "r999 9999 9;", " r 5  6 7 ; ", "f1;", "f99;", "w0;", "w100;",
+            "w9999;", "oa;", "oh;", "o h;", "p0ab;", "p999ha;", "p 9 a b ;f20;w0;oa;r1 1 1;"};
         int[] items = {0, 0, 1, 1, 1, 1, 1, 1, 1, 1, 1, 1, 1, 1, 1, 5};
         for (int i = 0; i < texts.length; i++) {
             MilesKept x = new MilesKept();
@@ -570,6 +571,7 @@ public final class PromisesTest {
         }
         x.strikes(1);
         fraction("one is left", x, 3, 2, 7, 10);
+        fraction("one is left", x, 3, 3, 0, 1);
         x.undo();
         fraction("two again", x, 3, 6, 49, 100);
         due("two: now(7)", x.now(7), 0);
@@ -647,5 +649,25 @@ public final class PromisesTest {
         x.rules(9, 0);
         x.adds(0, 0, 1);
         due("text stays: count(5)", x.count(5), 1);
+    }
+
+    // ---- wrong numbers of any size
+
+    private static void extremes() {
+        MilesKept x = told("r0 0 1;r9 99 2;p5ab;");
+        int[] far = {Integer.MIN_VALUE, -1000000, 1000000, Integer.MAX_VALUE};
+        for (int n : far) {
+            String name = "(" + n + "): ";
+            long[] answers = {x.type(n), x.reading(n, 0), x.reading(0, n), x.change(n, 0), x.change(0, n), x.now(n),
+                x.adds(n, 0, 1), x.adds(0, n, 1), x.adds(0, 0, n), x.strikes(n), x.rules(n, 0), x.rules(1, n),
+                x.on(n, 0), x.on(0, n), x.plate(n), x.odds(n, 0, 0), x.odds(0, n, 0), x.odds(0, 0, n), x.keep(n),
+                x.back(n), x.count(n)};
+            for (int i = 0; i < answers.length; i++) {
+                due(name + "call " + i, answers[i], BAD);
+            }
+        }
+        due("extremes: now(7)", x.now(7), 0);
+        due("extremes: count(5)", x.count(5), 0);
+        nows("extremes", x, 6, 2, 3, 3, NONE, NONE, 1, 0);
     }
 }
